@@ -31,6 +31,7 @@ public final class PromisesTest {
         shifted();
         spare();
         questionsChangeNothing();
+        answersDoNotLinger();
         System.out.println(wrong == 0 ? "all answers are as due" : wrong + " answers are not as due");
         if (wrong != 0) {
             System.exit(1);
@@ -528,6 +529,29 @@ public final class PromisesTest {
             due("range(0, 1)", x.range(0, 1), 2);
             due("unique()", x.unique(), false);
             due("lines()", x.lines(), 7);
+        }
+    }
+
+    /** An object that has had a shipment must not answer from it when there is none any more. */
+    private static void answersDoNotLinger() {
+        promise = "promises 7 to 16";
+        SupplyDesk x = twoWays(2);
+        for (int round = 0; round < 2; round++) {
+            x.balance(2, -2);
+            due("possible()", x.possible(), true);
+            due("unique()", x.unique(), true);
+            due("least()", x.least(), 8);
+            x.balance(2, -1);
+            due("unique() without a shipment", x.unique(), false);
+            due("possible() without a shipment", x.possible(), false);
+            due("least() without a shipment", x.least(), NONE);
+            due("greatest() without a shipment", x.greatest(), NONE);
+            due("first(1) without a shipment", x.first(1), BAD);
+            due("range(1, 0) without a shipment", x.range(1, 0), BAD);
+            due("leastWith(1, 2) without a shipment", x.leastWith(1, 2), NONE);
+            due("worth(1) without a shipment", x.worth(1), NONE);
+            due("shifted(0, 2) without a shipment", x.shifted(0, 2), NONE);
+            due("spare(0, 2) without a shipment", x.spare(0, 2), BAD);
         }
     }
 }
