@@ -248,7 +248,8 @@ public final class ModelTest {
                 sums[line.from()] += n;
                 sums[line.to()] -= n;
             }
-            for (int p = 0; p < 5; p++) {
+            // Nothing is promised after the last call, so this stops there too.
+            for (int p = 0; p < 5 && call < CALLS; p++) {
                 setBalance(p, sums[p]);
             }
         }

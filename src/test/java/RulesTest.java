@@ -34,6 +34,8 @@ public final class RulesTest {
         privateMembers();
         String code = withoutComments(Files.readString(SOURCE));
         words(code);
+        namesOfClasses(code);
+        loops(code);
         arraysMadeInFields(code);
         methods(code);
         callsInArguments(code);
@@ -110,7 +112,40 @@ public final class RulesTest {
         }
         need("no lambda, method reference, text or annotation", !code.contains("->") && !code.contains("::")
                 && !code.contains("\"") && !code.contains("@"));
-        need("no endless loop", !code.contains("while (true)") && !code.contains("for (;"));
+    }
+
+    /** Whatever begins with a great letter and isn't the class or a constant of it is of the library. */
+    private static void namesOfClasses(String code) {
+        Set<String> own = new HashSet<>(Set.of("SupplyDesk"));
+        for (Field f : SupplyDesk.class.getDeclaredFields()) {
+            own.add(f.getName());
+        }
+        Matcher name = Pattern.compile("\\b[A-Z]\\w*").matcher(code);
+        while (name.find()) {
+            need("no class of the library: " + name.group(), own.contains(name.group()));
+        }
+    }
+
+    /** A counter that runs against a name: the plainest end that can be seen from a loop's own line. */
+    private static void loops(String code) {
+        Pattern counted = Pattern.compile(
+                "for \\(int (\\w+) = [\\w -]+; (?:\\1 < \\w+; \\1\\+\\+|\\1 >= 0; \\1--)\\) \\{");
+        Set<String> counters = new TreeSet<>();
+        StringBuilder rest = new StringBuilder();
+        for (String line : code.split("\\n")) {
+            Matcher header = counted.matcher(line.strip());
+            if (header.matches()) {
+                counters.add(header.group(1));
+            } else {
+                need("a counted loop: " + line, !Pattern.compile("\\b(for|while|do)\\b").matcher(line).find());
+                rest.append(line.replaceAll("\\bint \\w+ =", "")).append('\n');
+            }
+        }
+        for (String name : counters) {
+            Pattern moved = Pattern.compile("\\b" + name + " [-+*/%&|^<>]*=(?!=)|\\b" + name + "(\\+\\+|--)|(\\+\\+|--)" + name + "\\b");
+            Matcher move = moved.matcher(rest.toString().replaceAll("[<>]= ", "< "));
+            need("the counter " + name + " is moved by its loop alone", !move.find());
+        }
     }
 
     private static void arraysMadeInFields(String code) {
